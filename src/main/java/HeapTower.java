@@ -30,7 +30,10 @@ public final class HeapTower {
     private final Products products;
     private final Numbers numbers;
     private final Rows scratchRows;
-    /** A part of one degree, for the call at hand; building a base leaves it as it is. */
+    // What is called a part here has the numbers of one degree d, each at its product's place:
+    // of a longer array only the places of degree d are looked at.
+
+    /** A part for the call at hand; building a base leaves it as it is. */
     private final int[] work;
     private final int[][] socleImages;
     private final Polynomial theDraft;
@@ -571,7 +574,7 @@ public final class HeapTower {
 
     /** The numbers modulo a prime. */
     private static final class Numbers {
-        private final int[] inverses = new int[PRIME_TOP + 1];
+        private final int[] inverses = new int[PRIME_TOP];
         private int prime;
 
         Numbers() {
@@ -1055,7 +1058,7 @@ public final class HeapTower {
                     int below = leaderBelow(d, place, l);
                     if (below > 0 && below != leader && below != latest
                             && isNews(d, place, leader - 1, below - 1)) {
-                        offerDifference(d, place, leader - 1, below - 1);
+                        offerMoved(d, place, below - 1);
                         latest = below;
                     }
                 }
@@ -1079,10 +1082,10 @@ public final class HeapTower {
             return share;
         }
 
-        private void offerDifference(int d, int place, int a, int b) {
+        /** Offers element k, moved up to a place; its rest is that of the difference. */
+        private void offerMoved(int d, int place, int k) {
             Arrays.fill(work, 0);
-            addMoved(work, a, place, 1);
-            addMoved(work, b, place, numbers.prime() - 1);
+            addMoved(work, k, place, 1);
             reduce(d, work);
             fresh.add(work);
         }
@@ -1152,7 +1155,6 @@ public final class HeapTower {
         }
 
         void append(Polynomial row, int degree) {
-            Arrays.fill(rows[size], 0);
             row.loadPart(degree, rows[size]);
             degrees[size] = degree;
             size++;
@@ -1174,7 +1176,6 @@ public final class HeapTower {
         }
 
         void load(int r, int[] into) {
-            Arrays.fill(into, 0);
             System.arraycopy(rows[r], 0, into, 0, ROW_PLACES);
         }
 

@@ -295,6 +295,9 @@ public final class PromisesTest {
         due("wraps", x.times(MAX, MAX, 2), NO);
         due("wraps", x.times(MAX, 0, 0), NO);
         draftIs("refused ones change nothing", x, 2, 1, 1, 2, 3, 2, 3, 5, 4, 1, 7, 2);
+        due("degree 11 by y", x.times(0, 1, 0), NO);
+        due("degree 11 by z", x.times(0, 0, 1), NO);
+        due("degree 12 by y and z", x.times(0, 1, 1), NO);
         write(x, 1, 1, 0, 0, 1, 0, 0, 0);
         due("times x over degrees", x.times(1, 0, 0), 2);
         draftIs("times x over degrees", x, 1, 2, 0, 0, 1, 1, 0, 0);
@@ -623,10 +626,55 @@ public final class PromisesTest {
         x.times(0, 1, 0);
         due("after times: 8", x.quotient(8), 8);
         due("after times: 9", x.quotient(9), NO);
+        quotientAfterChanges();
         HeapTower none = new HeapTower();
         write(none, 1, 10, 0, 0);
         due("of no rows", none.quotient(0), 0);
         due("of no rows", none.quotient(1), NO);
+    }
+
+    /** By x x x, y y: x goes to 0 by x x, y by y, x by y not. */
+    private static void quotientAfterChanges() {
+        HeapTower x = of(2, 5);
+        row(x, 1, 3, 0, 0);
+        row(x, 1, 0, 2, 0);
+        write(x, 1, 2, 0, 0);
+        due("by x x: 1", x.quotient(1), 1);
+        x.wipe();
+        x.term(1, 0, 1, 0);
+        due("by y, written: 1", x.quotient(1), 1);
+        x.term(1, 1, 0, 0);
+        due("by x + y, one more term: 1", x.quotient(1), 0);
+        x.copy(1);
+        due("by y y, copied: 0", x.quotient(0), 1);
+        write(x, 1, 1, 0, 0, 1, 0, 0, 0);
+        due("not even", x.quotient(0), NO);
+        write(x, 1, 1, 0, 0);
+        due("by x: 0", x.quotient(0), 0);
+        x.element(1);
+        due("by x x x, an element: 0", x.quotient(0), 1);
+        write(x, 1, 1, 1, 0);
+        due("by x y: 0", x.quotient(0), 0);
+        x.times(1, 0, 0);
+        due("by x x y: 1", x.quotient(1), 2);
+        write(x, 1, 2, 1, 0, 1, 0, 3, 0);
+        due("by x x y + y y y: 0", x.quotient(0), 0);
+        x.rest();
+        due("by its rest: 0", x.quotient(0), 0);
+        write(x, 1, 0, 0, 0);
+        x.claim(0);
+        write(x, 1, 0, 1, 0);
+        due("by y: 0", x.quotient(0), 0);
+        x.sum();
+        due("by a sum: 0", x.quotient(0), 1);
+        write(x, 1, 2, 0, 0);
+        due("by x x: 0", x.quotient(0), 0);
+        x.drop();
+        x.keep();
+        x.drop();
+        due("by x x, of no rows: 1", x.quotient(1), 0);
+        x.swap();
+        due("by x x, of x x x: 1", x.quotient(1), 1);
     }
 
     // ---- 19
@@ -780,6 +828,15 @@ public final class PromisesTest {
         dimensions("of degree 5, two and one", y, 10, 41, 21, 41, 21, 2);
         y.order(1);
         dimensions("by order 1", y, 10, 41, 21, 41, 21, 2);
+        y.letters(3, 7);
+        dimensions("letters told anew", y, 10, 0, 0, 0, 0, 0);
+        row(y, 1, 1, 0, 0);
+        y.keep();
+        dimensions("a heap twice", y, 2, 3, 3, 3, 3, 1);
+        y.drop();
+        dimensions("none and one", y, 2, 0, 3, 3, 0, 0);
+        due("keep of none", y.keep(), 1);
+        dimensions("none twice", y, 2, 0, 0, 0, 0, 0);
     }
 
     // ---- 23

@@ -52,7 +52,10 @@ public final class WholeHeapsTest {
         askTwoHeaps();
         due("swap", real.swap(), model.swap());
         askTwoHeaps();
+        askUpwards();
         askQuotients();
+        askQuotientsUpwards();
+        askAfterRowsOfTheBase();
     }
 
     private void rows(int many) {
@@ -116,6 +119,79 @@ public final class WholeHeapsTest {
             for (int which = 0; which < 5; which++) {
                 due("dimension(" + which + ", " + d + ")", real.dimension(which, d), model.dimension(which, d));
             }
+        }
+    }
+
+    private void turnOrder() {
+        int order = 1 - model.told(2);
+        due("order", real.order(order), model.order(order));
+    }
+
+    /** Bases that are built by turns, a degree at a time, with a change now and then. */
+    private void askUpwards() {
+        for (int change = 0; change < 4; change++) {
+            int when = 2 + random.nextInt(7);
+            for (int d = 0; d <= 10; d++) {
+                if (d == when && change < 2) {
+                    turnOrder();
+                }
+                if (d == when && change == 2) {
+                    due("swap", real.swap(), model.swap());
+                }
+                if (d == when && change == 3) {
+                    due("drop", real.drop(), model.drop());
+                    rows(1);
+                }
+                due("count(" + d + ")", real.count(d), model.count(d));
+                for (int which = 4; which >= 0; which--) {
+                    due("dimension(" + which + ", " + d + ")", real.dimension(which, d), model.dimension(which, d));
+                }
+            }
+            turnOrder();
+        }
+    }
+
+    /** A quotient's base, too, with a change between its degrees. */
+    private void askQuotientsUpwards() {
+        for (int change = 0; change < 5; change++) {
+            write(1 + random.nextInt(2));
+            int when = 1 + random.nextInt(6);
+            for (int d = 0; d <= 8; d++) {
+                if (d == when && change == 0) {
+                    turnOrder();
+                }
+                if (d == when && change == 1) {
+                    due("swap", real.swap(), model.swap());
+                }
+                if (d == when && change == 2) {
+                    due("drop", real.drop(), model.drop());
+                }
+                if (d == when && change == 3) {
+                    due("keep", real.keep(), model.keep());
+                }
+                if (d == when && change == 4) {
+                    due("times", real.times(1, 0, 0), model.times(1, 0, 0));
+                }
+                due("quotient(" + d + ")", real.quotient(d), model.quotient(d));
+            }
+            due("regular", real.regular(), model.regular());
+        }
+    }
+
+    /** The other heap by rows of its own base: often the same heap, by other rows. */
+    private void askAfterRowsOfTheBase() {
+        due("keep", real.keep(), model.keep());
+        while (model.told(3) > 0) {
+            due("drop", real.drop(), model.drop());
+        }
+        for (int k = 0; k < 6; k++) {
+            due("swap", real.swap(), model.swap());
+            due("element", real.element(k), model.element(k));
+            due("swap", real.swap(), model.swap());
+            due("row", real.row(), model.row());
+            due("parts", real.parts(), model.parts());
+            turnOrder();
+            due("parts", real.parts(), model.parts());
         }
     }
 
