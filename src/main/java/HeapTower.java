@@ -30,10 +30,10 @@ public final class HeapTower {
     private final Products products;
     private final Numbers numbers;
     private final Rows scratchRows;
-    // What is called a part here has the numbers of one degree d, each at its product's place:
-    // of a longer array only the places of degree d are looked at.
-
-    /** A part for the call at hand; building a base leaves it as it is. */
+    /**
+     * A part for the call at hand: the numbers of one degree, each at its product's place. Only
+     * the places of that degree are looked at. Heaps that build their base leave it as it is.
+     */
     private final int[] work;
     private final int[][] socleImages;
     private final Polynomial theDraft;
@@ -1046,9 +1046,9 @@ public final class HeapTower {
             return leaders[FIRST[d - 1] + products.lowered(place, letter)];
         }
 
-        // The heap of degree d is made by letters times what is in it of degree d - 1, and by
-        // its rows. Where two such have one head, their difference is in the heap, too, and may
-        // have a head that is led by none.
+        // What is in the heap of degree d is made by letters times what is in it of degree d - 1,
+        // and by rows. Where two such have one head, their difference may have a head that no
+        // element leads to yet.
         private void offerDifferences(int d) {
             for (int i = 0; size > 1 && i < products.amount(d); i++) {
                 int place = products.at(d, i);

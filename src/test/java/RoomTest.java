@@ -32,7 +32,7 @@ public final class RoomTest {
 
     private static long allocated() {
         return ((com.sun.management.ThreadMXBean) ManagementFactory.getThreadMXBean())
-                .getThreadAllocatedBytes(Thread.currentThread().getId());
+                .getCurrentThreadAllocatedBytes();
     }
 
     private static void write(HeapTower x, int d, int seed) {
