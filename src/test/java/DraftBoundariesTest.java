@@ -106,6 +106,52 @@ public final class DraftBoundariesTest {
         }
     }
 
+    @Says(promise = 0, value = "of one DEGREE, by ORDER 0 (at first) that with the lesser power of the last letter"
+            + " of which their powers differ, by ORDER 1 that with the greater power of the first letter"
+            + " of which they differ")
+    @Break(at = "private int lineByLast(", from = "place(y, z)", to = "place(d - z - y, z)")
+    @Break(at = "private int lineByLast(", from = "letterCount > 1", to = "letterCount > 2")
+    @Break(at = "private int lineByFirst(", from = "place(s - z, z)", to = "place(z, s - z)")
+    @Break(at = "private int lineByFirst(", from = "letterCount > 1", to = "letterCount > 2")
+    static void t1everyTwoProductsOfOneDegree() {
+        int[] degrees = {1, 2, 3, 10};
+        for (int n = 1; n <= 3; n++) {
+            for (int d : degrees) {
+                everyTwo(n, 0, d);
+                everyTwo(n, 1, d);
+            }
+        }
+    }
+
+    private static void everyTwo(int n, int order, int d) {
+        HeapTower x = Bench.of(n, 7);
+        x.order(order);
+        for (int a = 0; a < 1331; a++) {
+            int[] u = {a / 121, a / 11 % 11, a % 11};
+            for (int b = 0; b < a && isOfDegree(u, n, d); b++) {
+                int[] v = {b / 121, b / 11 % 11, b % 11};
+                if (isOfDegree(v, n, d)) {
+                    Bench.write(x, 1, u[0], u[1], u[2], 1, v[0], v[1], v[2]);
+                    int[] head = isGreater(u, v, order) ? u : v;
+                    due("the head by order " + order, x.draft(3), 10000 * head[0] + 100 * head[1] + head[2]);
+                }
+            }
+        }
+    }
+
+    private static boolean isOfDegree(int[] w, int n, int d) {
+        return w[0] + w[1] + w[2] == d && (n > 1 || w[1] == 0) && (n > 2 || w[2] == 0);
+    }
+
+    private static boolean isGreater(int[] u, int[] v, int order) {
+        if (order == 0) {
+            int last = u[2] != v[2] ? 2 : u[1] != v[1] ? 1 : 0;
+            return u[last] < v[last];
+        }
+        int first = u[0] != v[0] ? 0 : u[1] != v[1] ? 1 : 2;
+        return u[first] > v[first];
+    }
+
     @Says(promise = 0, value = "in order: the lesser DEGREE first, of one DEGREE the lesser PRODUCT first")
     @Break(at = "void close(", from = "int i = products.amount(d) - 1; i >= 0; i--",
             to = "int i = 0; i < products.amount(d); i++")
@@ -296,6 +342,7 @@ public final class DraftBoundariesTest {
     @Break(at = "public int order(", from = "return before;", to = "return order;")
     @Break(at = "public int order(", from = "forgetAllBases();", to = "")
     @Break(at = "public int order(", from = "products.letterCount(), order", to = "3, order")
+    @Break(at = "private void forgetAllBases(", from = "theOther.forgetBase();", to = "")
     static void p03whatItWas() {
         HeapTower x = Bench.twoCones();
         due("order(0) of 0", x.order(0), 0);
@@ -309,6 +356,12 @@ public final class DraftBoundariesTest {
         HeapTower two = Bench.of(2, 7);
         two.order(1);
         due("letters stay", two.told(0), 2);
+        HeapTower other = Bench.twoCones();
+        other.keep();
+        due("in the other", other.dimension(1, 10), 62);
+        other.order(1);
+        other.swap();
+        due("the other's base by order 1", other.base(10), 4);
     }
 
     @Says(promise = 3, value = "NO: another one.")

@@ -38,6 +38,7 @@ public final class HeapBoundariesTest {
     @Break(at = "public int row(", from = "return r;", to = "return r + 1;")
     @Break(at = "public int row(", from = "heapChanged(degree);", to = "")
     @Break(at = "void append(Polynomial", from = "base.forget(degree);", to = "")
+    @Break(at = "private void heapChanged(", from = "productBase.forget(degree);", to = "")
     static void p09fromTheFirstToTheSixth() {
         HeapTower x = new HeapTower();
         for (int r = 0; r < 6; r++) {
@@ -50,6 +51,15 @@ public final class HeapBoundariesTest {
         }
         due("count after all", x.count(5), 15);
         due("sum of heaps after all", x.dimension(2, 5), 6);
+        HeapTower y = new HeapTower();
+        Bench.row(y, 1, 1, 0, 0);
+        y.keep();
+        due("product of x and x", y.dimension(4, 10), 45);
+        Bench.row(y, 1, 0, 5, 0);
+        // x y^5 has, of degree 10, five multiples that x x does not divide.
+        due("product of x, y^5 and x", y.dimension(4, 10), 50);
+        due("drop", y.drop(), 1);
+        due("product after it is dropped", y.dimension(4, 10), 45);
     }
 
     @Says(promise = 9, value = "NO: it is not EVEN")
@@ -328,14 +338,21 @@ public final class HeapBoundariesTest {
     @Break(at = "public int count(", from = "baseUpTo(d).standardCount(d)", to = "baseUpTo(d).leadingCount(d)")
     @Break(at = "void close(", from = "standard[d] = products.amount(d) - leading;",
             to = "standard[d] = Math.max(1, products.amount(d) - leading);")
+    @Break(at = "private int lineByFirst(", from = "letterCount > 1 ? d : 0", to = "letterCount > 2 ? d : 0")
+    @Break(at = "private int lineByFirst(", from = "letterCount > 2 ? s : 0", to = "letterCount > 1 ? s : 0")
     static void p16allAndNone() {
-        for (int d = 0; d <= 10; d++) {
-            due("of no rows", new HeapTower().count(d), (d + 1) * (d + 2) / 2);
-            due("of no rows in two letters", Bench.of(2, 7).count(d), d + 1);
-            due("of no rows in one letter", Bench.of(1, 7).count(d), 1);
-            due("of all letters", Bench.allLetters(3, 7).count(d), d == 0 ? 1 : 0);
-            due("of all of two letters", Bench.allLetters(2, 7).count(d), d == 0 ? 1 : 0);
-            due("of the one letter", Bench.allLetters(1, 7).count(d), d == 0 ? 1 : 0);
+        for (int order = 0; order <= 1; order++) {
+            for (int n = 1; n <= 3; n++) {
+                HeapTower none = Bench.of(n, 7);
+                HeapTower all = Bench.allLetters(n, 7);
+                none.order(order);
+                all.order(order);
+                for (int d = 0; d <= 10; d++) {
+                    int products = n == 1 ? 1 : n == 2 ? d + 1 : (d + 1) * (d + 2) / 2;
+                    due(n + " letters, no rows: count(" + d + ")", none.count(d), products);
+                    due(n + " letters, all of them rows: count(" + d + ")", all.count(d), d == 0 ? 1 : 0);
+                }
+            }
         }
     }
 

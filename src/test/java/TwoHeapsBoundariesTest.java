@@ -160,6 +160,7 @@ public final class TwoHeapsBoundariesTest {
     @Break(at = "public int keep(", from = "return before;", to = "clearClaims(); return before;")
     @Break(at = "public int keep(", from = "return before;", to = "theDraft.clear(); return before;")
     @Break(at = "void become(Heap", from = "size = from.size;", to = "size = Math.max(size, from.size);")
+    @Break(at = "void become(Heap", from = "ROW_PLACES", to = "ROW_PLACES - 1")
     static void p20noneAndSix() {
         HeapTower x = Bench.sixRows();
         Bench.claim(x, 5, 1, 0, 0, 0);
@@ -184,6 +185,11 @@ public final class TwoHeapsBoundariesTest {
         due("the sum of none", x.dimension(2, 2), 0);
         due("none before", x.keep(), 0);
         due("still none", x.told(4), 0);
+        Bench.row(x, 1, 5, 0, 0, 2, 0, 0, 5);
+        due("none before", x.keep(), 0);
+        due("swap", x.swap(), 1);
+        due("the first and the last product of degree 5", x.copy(0), 2);
+        Bench.draftIs("x^5 + 2 z^5", x, 1, 5, 0, 0, 2, 0, 0, 5);
     }
 
     // ---- 21
@@ -349,11 +355,17 @@ public final class TwoHeapsBoundariesTest {
     @Says(promise = 23, value = "-1 if there is none")
     @Break(at = "public int parts(", from = "least > ROW_TOP ? -1 : least", to = "least")
     @Break(at = "private int leastOutside(", from = "&& !products.isZero(d, work)", to = "")
+    @Break(at = "public int parts(", from = "theOther.baseUpTo(ROW_TOP)", to = "theOther.baseUpTo(ROW_TOP - 1)")
+    @Break(at = "public int parts(", from = "theHeap.baseUpTo(ROW_TOP)", to = "theHeap.baseUpTo(ROW_TOP - 1)")
     static void p23theSame() {
         due("none and none", new HeapTower().parts(), -1);
         HeapTower x = Bench.sixRows();
         x.keep();
         due("six rows twice", x.parts(), -1);
+        HeapTower five = new HeapTower();
+        Bench.row(five, 1, 5, 0, 0, 2, 0, 0, 5);
+        five.keep();
+        due("one of degree 5 twice", five.parts(), -1);
         HeapTower y = new HeapTower();
         Bench.row(y, 1, 1, 0, 0);
         Bench.row(y, 1, 0, 1, 0);
