@@ -392,6 +392,7 @@ public final class HeapBoundariesTest {
     @Break(at = "private int freeAtGround(", from = "j == 0 ? 1 : 0", to = "1")
     @Break(at = "private int freeAtThird(", from = "scratchRows.begin(d);", to = "scratchRows.begin(0);")
     @Break(at = "private int freeAtSecond(", from = "n == LETTERS_AT_MOST ? freeAtThird(base, j) : 0", to = "0")
+    @Break(at = "private void loadImages(", from = "base.reduce(d + 1, work);", to = "")
     static void p17fromTheGroundToDegree10() {
         HeapTower none = new HeapTower();
         HeapTower powers = new HeapTower();
@@ -413,6 +414,26 @@ public final class HeapBoundariesTest {
         HeapTower one = Bench.of(1, 7);
         Bench.row(one, 1, 5, 0, 0);
         due("one letter: free(1, 5)", one.free(1, 5), 1);
+    }
+
+    @Says(promise = 0, value = "These are the numbers of free ones of DEGREE j at floor i of the least tower")
+    @Break(at = "private void loadImages(", from = "letter)] = 1;", to = "letter)] = 2;")
+    static void p17theSameByEveryPrimeAndOrder() {
+        // Neither of x y - z z and y y divides nought by the other: one free one at floor 2, none above.
+        for (int p : Bench.PRIMES) {
+            HeapTower x = Bench.of(3, p);
+            Bench.row(x, 1, 1, 1, 0, -1, 0, 0, 2);
+            Bench.row(x, 1, 0, 2, 0);
+            for (int order = 1; order >= 0; order--) {
+                x.order(order);
+                for (int i = 0; i <= 3; i++) {
+                    for (int j = 0; j <= 10; j++) {
+                        int want = i == 0 && j == 0 || i == 2 && j == 4 ? 1 : i == 1 && j == 2 ? 2 : 0;
+                        due("P " + p + ": free(" + i + ", " + j + ")", x.free(i, j), want);
+                    }
+                }
+            }
+        }
     }
 
     @Says(promise = 17, value = "NO: i is not 0..3")
