@@ -904,19 +904,24 @@ public final class HeapTower {
          */
         private static final int TERMS = 2560;
 
+        /** A term is a number and a place in one int: half the room of two arrays. */
+        private static final int PLACE_BITS = 7;
+        private static final int PLACE_MASK = 127;
+
         private final Products products;
         private final Numbers numbers;
         private final Rows fresh;
         private final int[] work;
-        private final int[] places = new int[TERMS];
-        private final int[] values = new int[TERMS];
         private final int[] starts = new int[PLACES + 1];
         private final int[] degrees = new int[PLACES];
-        /** Of each product 1 and the number of an element whose head divides it, 0 if none. */
-        private final int[] leaders = new int[ALL];
         private final int[] sizes = new int[TOP + 1];
         private final int[] standard = new int[TOP + 1];
         private final int[] needed = new int[TOP + 1];
+        // These two are made when the base is first built: few runs ask for all five bases, and a
+        // run may make many objects.
+        private int[] terms = new int[0];
+        /** Of each product 1 and the number of an element whose head divides it, 0 if none. */
+        private int[] leaders = new int[0];
         private int reached = -1;
         private int size;
 
@@ -968,15 +973,23 @@ public final class HeapTower {
         void loadElement(int k, int[] into) {
             Arrays.fill(into, 0);
             for (int t = starts[k]; t < starts[k + 1]; t++) {
-                into[places[t]] = values[t];
+                into[terms[t] & PLACE_MASK] = terms[t] >> PLACE_BITS;
             }
         }
 
         void open(int d) {
+            makeRoom();
             fresh.begin(d);
             needed[d] = 0;
             inherit(d);
             offerDifferences(d);
+        }
+
+        private void makeRoom() {
+            if (terms.length == 0) {
+                terms = new int[TERMS];
+                leaders = new int[ALL];
+            }
         }
 
         void offer(int d, int[] row) {
@@ -1015,15 +1028,16 @@ public final class HeapTower {
             int prime = numbers.prime;
             int[] second = products.second;
             int[] third = products.third;
-            int head = places[starts[k]];
+            int head = terms[starts[k]] & PLACE_MASK;
             int y = second[place] - second[head];
             int z = third[place] - third[head];
             for (int t = starts[k]; t < starts[k + 1]; t++) {
                 // As Products.place has it: most of all work is done in this loop.
-                int last = third[places[t]] + z;
-                int both = second[places[t]] + y + last;
+                int from = terms[t] & PLACE_MASK;
+                int last = third[from] + z;
+                int both = second[from] + y + last;
                 int to = both * (both + 1) / 2 + last;
-                part[to] = (part[to] + c * values[t]) % prime;
+                part[to] = (part[to] + c * (terms[t] >> PLACE_BITS)) % prime;
             }
         }
 
@@ -1070,10 +1084,12 @@ public final class HeapTower {
          * (then their difference was seen in a lesser degree), or if the heads share no letter.
          */
         private boolean isNews(int d, int place, int a, int b) {
+            int headOfA = terms[starts[a]] & PLACE_MASK;
+            int headOfB = terms[starts[b]] & PLACE_MASK;
             boolean share = false;
             for (int l = 0; l < LETTERS_AT_MOST; l++) {
-                int ofA = products.power(degrees[a], places[starts[a]], l);
-                int ofB = products.power(degrees[b], places[starts[b]], l);
+                int ofA = products.power(degrees[a], headOfA, l);
+                int ofB = products.power(degrees[b], headOfB, l);
                 if (Math.max(ofA, ofB) != products.power(d, place, l)) {
                     return false;
                 }
@@ -1099,9 +1115,9 @@ public final class HeapTower {
             int end = starts[size];
             for (int j = i; j < products.amount(d); j++) {
                 int place = products.at(d, j);
-                if (fresh.numberAt(head, place) != 0) {
-                    places[end] = place;
-                    values[end] = fresh.numberAt(head, place);
+                int c = fresh.numberAt(head, place);
+                if (c != 0) {
+                    terms[end] = c << PLACE_BITS | place;
                     end++;
                 }
             }

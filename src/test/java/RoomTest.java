@@ -7,27 +7,87 @@ import java.util.Deque;
 import java.util.IdentityHashMap;
 import java.util.Map;
 
-/** What an object takes when it is made, and that its calls take nothing more. */
+/**
+ * All calls of one run live in one room: a run of 512 calls fits it, whichever they are, as no call,
+ * a new object's making among them, takes more than its share. Once its bases are made, an object
+ * takes nothing more.
+ */
 public final class RoomTest {
     private static final Check CHECK = new Check();
+    private static final int CALLS = 513;
+    private static final long OBJECTS_OF_ONE_CALL = 600_000 / CALLS;
+    private static final long ELEMENTS_OF_ONE_CALL = 7_300_000 / CALLS;
+
+    private RoomTest() {
+    }
 
     public static void main(String[] args) throws Exception {
         HeapTower x = new HeapTower();
         long[] fresh = room(x);
-        System.out.println("a new object: " + fresh[0] + " objects and arrays, " + fresh[1] + " fields and elements");
-        CHECK.holds("objects of a new one", fresh[0] <= 600);
-        CHECK.holds("elements of a new one", fresh[1] <= 50000);
-        calls(new HeapTower(), 2);
+        tell("a new object", fresh);
+        share("a new object", fresh, new long[2]);
+        eachCall();
+        calls(x, 2);
+        long[] used = room(x);
+        tell("with all its bases", used);
+        CHECK.holds("elements with all bases", used[1] <= 25000);
         long before = allocated();
         long idle = allocated() - before;
         before = allocated();
         calls(x, 40);
         long taken = allocated() - before - idle;
         CHECK.holds("calls make nothing: " + taken + " bytes", taken <= 4096);
-        long[] used = room(x);
-        CHECK.due("objects after calls", used[0], fresh[0]);
-        CHECK.due("elements after calls", used[1], fresh[1]);
+        long[] later = room(x);
+        CHECK.due("objects after calls", later[0], used[0]);
+        CHECK.due("elements after calls", later[1], used[1]);
         CHECK.end();
+    }
+
+    private static void tell(String what, long[] room) {
+        System.out.println(what + ": " + room[0] + " objects and arrays, " + room[1] + " fields and elements");
+    }
+
+    private static void share(String what, long[] now, long[] before) {
+        CHECK.holds(what + ": objects of one call", now[0] - before[0] <= OBJECTS_OF_ONE_CALL);
+        CHECK.holds(what + ": elements of one call", now[1] - before[1] <= ELEMENTS_OF_ONE_CALL);
+    }
+
+    /** The first call on an object that has rows in both heaps and a draft takes the most. */
+    private static void eachCall() throws Exception {
+        String[] names = {"dimension 2", "dimension 3", "dimension 4", "regular", "quotient", "parts", "free",
+            "element", "rest"};
+        for (String name : names) {
+            HeapTower x = Bench.busy();
+            long[] before = room(x);
+            long bytes = allocated();
+            call(x, name);
+            bytes = allocated() - bytes;
+            share(name, room(x), before);
+            CHECK.holds(name + ": what is not kept counts, too: " + bytes, bytes <= 4 * ELEMENTS_OF_ONE_CALL);
+        }
+    }
+
+    private static int call(HeapTower x, String name) {
+        switch (name) {
+            case "dimension 2":
+                return x.dimension(2, 10);
+            case "dimension 3":
+                return x.dimension(3, 10);
+            case "dimension 4":
+                return x.dimension(4, 10);
+            case "regular":
+                return x.regular();
+            case "quotient":
+                return x.quotient(8);
+            case "parts":
+                return x.parts();
+            case "free":
+                return x.free(3, 10);
+            case "element":
+                return x.element(0);
+            default:
+                return x.rest();
+        }
     }
 
     private static long allocated() {
